@@ -22,6 +22,7 @@ public final class PromisesAsked {
         canLand();
         canShift();
         canOpenAndShut();
+        canOpenBesideBoxes();
         canWithinReach();
         mayWeights();
         mayHatch();
@@ -155,12 +156,13 @@ public final class PromisesAsked {
         CargoHeel x = new CargoHeel();
         int[] weights = {40, 7, 13, 22};
         int[] slots = {2, 112, 322, 502};
-        int[] loads = {40, 7, 9, 13, 0, 22 + 5};
+        int[] loads = {40 + 3, 7, 9, 13, 0, 22 + 5};
         for (int box = 0; box < 4; box++) {
             Due.cleared(x, weights[box], 6, 0, box);
             x.order(CargoHeel.LOAD, box, slots[box]);
         }
         x.pass(2);
+        x.tank(0, 3);
         x.tank(2, 9);
         x.tank(5, 5);
         int trim = 0;
@@ -218,6 +220,14 @@ public final class PromisesAsked {
         x.bounds(2000, 2000, 9999);
         x.pass(1);
         Due.is("23 landed", 0, x::bars);
+        for (int bay = 0; bay < 6; bay++) {
+            x.order(CargoHeel.OPEN, bay, 0);
+            x.pass(1);
+            // No hatch opens under the box in the bay 5.
+            Due.is("23 the hatch " + bay, bay == 5 ? 0 : 1, x::bars);
+            x.order(CargoHeel.SHUT, bay, 0);
+            x.pass(1);
+        }
         for (int port = 2; port < 10; port++) x.leave();
         Due.is("23 at the last port", 32 + 16, x::bars);
         x.order(CargoHeel.LAND, 1, 0);
@@ -362,6 +372,20 @@ public final class PromisesAsked {
         Due.is("26 to open one with a box on top", false, () -> x.can(0, 0));
         x.order(CargoHeel.OPEN, 1, 0);
         Due.is("26 to open the one beside it", true, () -> x.can(1, 0));
+    }
+
+    private static void canOpenBesideBoxes() {
+        for (int place : new int[] {2, 12, 22}) {
+            CargoHeel x = new CargoHeel();
+            Due.cleared(x, 10, 6, 0, 0);
+            x.order(CargoHeel.LOAD, 0, 300 + place);
+            x.pass(1);
+            for (int bay = 0; bay < 6; bay++) x.order(CargoHeel.OPEN, bay, 0);
+            for (int bay = 0; bay < 6; bay++) {
+                int its = bay;
+                Due.is("26 with a box at " + (300 + place) + " to open " + bay, bay != 3, () -> x.can(its, 0));
+            }
+        }
     }
 
     private static void canWithinReach() {

@@ -12,6 +12,7 @@ public final class PromisesShip {
         plug();
         bounds();
         boundsAreAmounts();
+        boundsAtFirst();
         tank();
         jam();
         jamBlocksOpening();
@@ -127,6 +128,37 @@ public final class PromisesShip {
         Due.is("3 a heel past 60 to the one side", 4, y::bars);
         y.bounds(400, 61, 900);
         Due.is("3 a heel at its bound", 0, y::bars);
+    }
+
+    /** 400, 60 and 900 are allowed at first, and 1 more is not. */
+    private static void boundsAtFirst() {
+        CargoHeel x = new CargoHeel();
+        x.tank(5, 80);
+        Due.is("3 a trim of 400", 0, x::bars);
+        x.tank(3, 1);
+        Due.is("3 a trim of 401", 2, x::bars);
+        CargoHeel y = new CargoHeel();
+        loaded(y, 30, 222);
+        loaded(y, 30, 322);
+        Due.is("3 a heel of 60", 0, y::bars);
+        loaded(y, 1, 323);
+        Due.is("3 a heel of 61", 4, y::bars);
+        CargoHeel z = new CargoHeel();
+        for (int bay = 0; bay < 5; bay++) z.tank(bay, 99);
+        for (int bay = 300; bay <= 400; bay += 100) {
+            for (int place : new int[] {2, 3, 12, 13, 22}) loaded(z, 40, bay + place);
+        }
+        loaded(z, 5, 212);
+        Due.is("3 a bending of 900", 900, () -> z.moment(5));
+        Due.is("3 which is within", 0, () -> z.bars() & 8);
+        loaded(z, 1, 423);
+        Due.is("3 a bending of 901", 901, () -> z.moment(5));
+        Due.is("3 which is not", 8, () -> z.bars() & 8);
+    }
+
+    private static void loaded(CargoHeel x, int weight, int slot) {
+        x.order(CargoHeel.LOAD, Due.cleared(x, weight, 9, CargoHeel.PLAIN, 0), slot);
+        x.pass(1);
     }
 
     private static Object bound(CargoHeel x, int trim, int heel, int bending) {
