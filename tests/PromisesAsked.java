@@ -16,6 +16,7 @@ public final class PromisesAsked {
         hatch();
         moments();
         bars();
+        barsOfTrimAlone();
         dig();
         orders();
         canLoad();
@@ -233,6 +234,18 @@ public final class PromisesAsked {
         x.order(CargoHeel.LAND, 1, 0);
         x.pass(1);
         Due.is("23 at the last port, empty", 32, x::bars);
+    }
+
+    private static void barsOfTrimAlone() {
+        CargoHeel x = new CargoHeel();
+        x.tank(0, 3);
+        x.tank(2, 1);
+        x.bounds(16, 0, 14);
+        Due.is("23 a trim of 16 is no bending past 14", 0, x::bars);
+        x.bounds(15, 0, 14);
+        Due.is("23 a trim of 16 past 15", 2, x::bars);
+        x.bounds(16, 0, 13);
+        Due.is("23 a bending of 14 past 13", 8, x::bars);
     }
 
     private static void dig() {
