@@ -34,7 +34,7 @@ public final class PromisesAsked {
     }
 
     private static void hourPortCost() {
-        CargoHeel x = new CargoHeel();
+        Watched x = new Watched();
         x.order(CargoHeel.OPEN, 0, 0);
         x.order(CargoHeel.SHUT, 0, 0);
         x.pass(3);
@@ -49,7 +49,7 @@ public final class PromisesAsked {
     }
 
     private static void of() {
-        CargoHeel x = new CargoHeel();
+        Watched x = new Watched();
         x.box(10, 12, 4, CargoHeel.DANGER, 6);
         x.box(9, 9, 4, 0, 6);
         x.box(8, 8, 4, 0, 6);
@@ -77,8 +77,8 @@ public final class PromisesAsked {
     }
 
     /** A bay filled from below: the boxes 0 to 3 in the tiers 0 to 3 of the row 1 of the bay 4. */
-    private static CargoHeel filled() {
-        CargoHeel x = new CargoHeel();
+    private static Watched filled() {
+        Watched x = new Watched();
         x.crane(0, 0, 5, 4);
         x.crane(1, 0, 5, 4);
         for (int box = 0; box < 4; box++) Due.cleared(x, 10, 6, 0, box);
@@ -93,7 +93,7 @@ public final class PromisesAsked {
     }
 
     private static void ofUpToTheHatch() {
-        CargoHeel x = filled();
+        Watched x = filled();
         int[] on = {1, 0, 1, 0};
         for (int box = 0; box < 4; box++) {
             int its = box;
@@ -104,7 +104,7 @@ public final class PromisesAsked {
     }
 
     private static void at() {
-        CargoHeel x = filled();
+        Watched x = filled();
         for (int tier = 0; tier < 4; tier++) {
             int its = tier;
             Due.is("18 tier " + tier, tier, () -> x.at(410 + its));
@@ -114,7 +114,7 @@ public final class PromisesAsked {
     }
 
     private static void inYard() {
-        CargoHeel x = new CargoHeel();
+        Watched x = new Watched();
         x.box(5, 5, 1, 0, 9);
         x.box(5, 5, 1, 0, 9);
         x.box(5, 5, 1, 0, 8);
@@ -137,7 +137,7 @@ public final class PromisesAsked {
     }
 
     private static void hatch() {
-        CargoHeel x = new CargoHeel();
+        Watched x = new Watched();
         Due.is("20 shut", 0, () -> x.hatch(5));
         x.order(CargoHeel.OPEN, 5, 0);
         x.pass(1);
@@ -154,7 +154,7 @@ public final class PromisesAsked {
     }
 
     private static void moments() {
-        CargoHeel x = new CargoHeel();
+        Watched x = new Watched();
         int[] weights = {40, 7, 13, 22};
         int[] slots = {2, 112, 322, 502};
         int[] loads = {40 + 3, 7, 9, 13, 0, 22 + 5};
@@ -192,7 +192,7 @@ public final class PromisesAsked {
     }
 
     private static void bars() {
-        CargoHeel x = new CargoHeel();
+        Watched x = new Watched();
         Due.is("23 none", 0, x::bars);
         Due.cleared(x, 30, 1, 0, 0);
         Due.cleared(x, 40, 9, 0, 1);
@@ -237,7 +237,7 @@ public final class PromisesAsked {
     }
 
     private static void barsOfTrimAlone() {
-        CargoHeel x = new CargoHeel();
+        Watched x = new Watched();
         x.tank(0, 3);
         x.tank(2, 1);
         x.bounds(16, 0, 14);
@@ -249,7 +249,7 @@ public final class PromisesAsked {
     }
 
     private static void dig() {
-        CargoHeel x = filled();
+        Watched x = filled();
         int[] due = {3, 2, 1, 0};
         for (int box = 0; box < 4; box++) {
             int its = box;
@@ -275,7 +275,7 @@ public final class PromisesAsked {
     }
 
     private static void orders() {
-        CargoHeel x = new CargoHeel();
+        Watched x = new Watched();
         x.order(CargoHeel.OPEN, 0, 0);
         x.order(CargoHeel.OPEN, 0, 0);
         Due.is("25 two", 2, x::orders);
@@ -286,7 +286,7 @@ public final class PromisesAsked {
     }
 
     private static void canLoad() {
-        CargoHeel x = new CargoHeel();
+        Watched x = new Watched();
         Due.cleared(x, 10, 1, 0, 0);
         Due.cleared(x, 10, 1, 0, 0);
         x.order(CargoHeel.LOAD, 0, 2);
@@ -316,7 +316,7 @@ public final class PromisesAsked {
     }
 
     private static void canLand() {
-        CargoHeel x = filled();
+        Watched x = filled();
         for (int box = 0; box < 4; box++) x.order(CargoHeel.LAND, box, 0);
         Due.is("26 the lowest", false, () -> x.can(0, 0));
         Due.is("26 under the hatch", false, () -> x.can(1, 0));
@@ -336,7 +336,7 @@ public final class PromisesAsked {
     }
 
     private static void canShift() {
-        CargoHeel x = filled();
+        Watched x = filled();
         x.paper(3, 0);
         x.order(CargoHeel.SHIFT, 3, 413);
         Due.is("26 to its own slot", false, () -> x.can(0, 0));
@@ -358,7 +358,7 @@ public final class PromisesAsked {
     }
 
     private static void canOpenAndShut() {
-        CargoHeel x = new CargoHeel();
+        Watched x = new Watched();
         Due.cleared(x, 10, 6, 0, 0);
         x.order(CargoHeel.OPEN, 2, 0);
         x.order(CargoHeel.SHUT, 2, 0);
@@ -389,7 +389,7 @@ public final class PromisesAsked {
 
     private static void canOpenBesideBoxes() {
         for (int place : new int[] {2, 12, 22}) {
-            CargoHeel x = new CargoHeel();
+            Watched x = new Watched();
             Due.cleared(x, 10, 6, 0, 0);
             x.order(CargoHeel.LOAD, 0, 300 + place);
             x.pass(1);
@@ -402,7 +402,7 @@ public final class PromisesAsked {
     }
 
     private static void canWithinReach() {
-        CargoHeel x = new CargoHeel();
+        Watched x = new Watched();
         Due.cleared(x, 10, 6, 0, 0);
         x.crane(0, 0, 2, 4);
         x.crane(1, 2, 4, 4);
@@ -426,7 +426,7 @@ public final class PromisesAsked {
     }
 
     private static void mayWeights() {
-        CargoHeel x = new CargoHeel();
+        Watched x = new Watched();
         Due.cleared(x, 10, 6, 0, 0);
         x.order(CargoHeel.LOAD, 0, 302);
         x.pass(1);
@@ -445,7 +445,7 @@ public final class PromisesAsked {
     }
 
     private static void mayHatch() {
-        CargoHeel x = new CargoHeel();
+        Watched x = new Watched();
         x.box(10, 10, 0, 0, 0);
         Due.cleared(x, 1, 5, 0, 1);
         Due.is("27 shut, under it", false, () -> x.may(0, 10));
@@ -464,7 +464,7 @@ public final class PromisesAsked {
     }
 
     private static void mayPlugs() {
-        CargoHeel x = new CargoHeel();
+        Watched x = new Watched();
         x.box(10, 10, 5, CargoHeel.COLD, 0);
         x.box(10, 10, 5, CargoHeel.DANGER, 1);
         x.plug(202);
@@ -477,7 +477,7 @@ public final class PromisesAsked {
     /** Each class on the ship in the bay 2, each class asked for each bay. */
     private static void mayDanger() {
         for (int there = 2; there <= 4; there++) {
-            CargoHeel x = new CargoHeel();
+            Watched x = new Watched();
             Due.cleared(x, 10, 5, there, 0);
             for (int kind = 0; kind <= 4; kind++) x.box(10, 10, 5, kind, 1 + kind);
             for (int bay = 0; bay < 6; bay++) x.plug(100 * bay + 22);
@@ -501,7 +501,7 @@ public final class PromisesAsked {
     }
 
     private static void mayAsIfNotOnTheShip() {
-        CargoHeel x = new CargoHeel();
+        Watched x = new Watched();
         Due.cleared(x, 10, 5, 4, 0);
         x.order(CargoHeel.LOAD, 0, 202);
         x.pass(1);
@@ -509,7 +509,7 @@ public final class PromisesAsked {
         Due.is("27 on itself", false, () -> x.may(0, 203));
         Due.is("27 beside its own bay", true, () -> x.may(0, 302));
         Due.is("27 in its own bay", true, () -> x.may(0, 212));
-        CargoHeel y = filled();
+        Watched y = filled();
         Due.is("27 its own slot under a hatch", false, () -> y.may(0, 410));
         Due.is("27 its own slot under another one", true, () -> y.may(2, 412));
         Due.is("27 its own slot on another one", true, () -> y.may(3, 413));

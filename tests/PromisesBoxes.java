@@ -18,7 +18,7 @@ public final class PromisesBoxes {
     }
 
     private static void box() {
-        CargoHeel x = new CargoHeel();
+        Watched x = new Watched();
         Due.is("7 the first", 0, () -> x.box(7, 9, 3, CargoHeel.COLD, 4));
         Due.is("7 the next", 1, () -> x.box(1, 40, 0, 4, 4));
         Due.is("7 the least and the most", 2, () -> x.box(40, 1, 9, 0, 9));
@@ -33,7 +33,7 @@ public final class PromisesBoxes {
     }
 
     private static void boxThrows() {
-        CargoHeel x = new CargoHeel();
+        Watched x = new Watched();
         for (int bad : new int[] {Integer.MIN_VALUE, -1, 10, Integer.MAX_VALUE}) {
             Due.isThrown(x, "7 port " + bad, OUT, () -> x.box(0, 0, bad, 9, 0));
             Due.isThrown(x, "7 stack " + bad, OUT, () -> x.box(0, 0, 0, 9, bad));
@@ -53,7 +53,7 @@ public final class PromisesBoxes {
     }
 
     private static void boxOnBox() {
-        CargoHeel x = new CargoHeel();
+        Watched x = new Watched();
         x.box(10, 40, 1, 0, 0);
         Due.isThrown(x, "7 six more", STATE, () -> x.box(16, 1, 1, 0, 0));
         Due.is("7 five more", 1, () -> x.box(15, 1, 1, 0, 0));
@@ -62,7 +62,7 @@ public final class PromisesBoxes {
     }
 
     private static void sixtyBoxes() {
-        CargoHeel x = new CargoHeel();
+        Watched x = new Watched();
         for (int i = 0; i < 40; i++) x.box(5, 5, 1, 0, i % 10);
         x.leave();
         for (int i = 0; i < 20; i++) x.box(5, 5, 2, 0, i % 10);
@@ -73,7 +73,7 @@ public final class PromisesBoxes {
     }
 
     private static void paper() {
-        CargoHeel x = new CargoHeel();
+        Watched x = new Watched();
         x.box(5, 5, 1, 0, 0);
         Due.is("8 one of 3", true, () -> x.paper(0, 2));
         Due.is("8 two of 3", true, () -> x.paper(0, 0));
@@ -91,7 +91,7 @@ public final class PromisesBoxes {
     }
 
     private static void paperOfGoneBox() {
-        CargoHeel x = new CargoHeel();
+        Watched x = new Watched();
         Due.cleared(x, 5, 1, 0, 0);
         x.leave();
         Due.is("8 of a gone box", true, () -> x.paper(0, 1));
@@ -99,7 +99,7 @@ public final class PromisesBoxes {
     }
 
     private static void skip() {
-        CargoHeel x = new CargoHeel();
+        Watched x = new Watched();
         Due.is("9 no boxes", 0, () -> x.skip(1));
         Due.is("9 not next", 0, () -> x.skip(3));
         Due.is("9 she calls at 2", 2, x::leave);
@@ -112,7 +112,7 @@ public final class PromisesBoxes {
     }
 
     private static void skipThrows() {
-        CargoHeel x = new CargoHeel();
+        Watched x = new Watched();
         for (int bad : new int[] {Integer.MIN_VALUE, -1, 0, 9, 10, Integer.MAX_VALUE}) {
             Due.isThrown(x, "9 port " + bad, OUT, () -> x.skip(bad));
         }
@@ -129,7 +129,7 @@ public final class PromisesBoxes {
     }
 
     private static void skipOfBoxes() {
-        CargoHeel x = new CargoHeel();
+        Watched x = new Watched();
         Due.cleared(x, 5, 3, 0, 0);
         Due.cleared(x, 5, 3, 0, 1);
         x.box(5, 5, 2, 0, 2);

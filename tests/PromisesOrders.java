@@ -22,7 +22,7 @@ public final class PromisesOrders {
     }
 
     private static void order() {
-        CargoHeel x = new CargoHeel();
+        Watched x = new Watched();
         x.box(5, 5, 1, 0, 0);
         Due.is("10 load", 1, () -> x.order(CargoHeel.LOAD, 0, 523));
         Due.is("10 land", 2, () -> x.order(CargoHeel.LAND, 0, 9));
@@ -35,7 +35,7 @@ public final class PromisesOrders {
     }
 
     private static void orderThrows() {
-        CargoHeel x = new CargoHeel();
+        Watched x = new Watched();
         x.box(5, 5, 1, 0, 0);
         for (int bad : new int[] {Integer.MIN_VALUE, -1, 5, Integer.MAX_VALUE}) {
             Due.isThrown(x, "10 what " + bad, ARGUMENT, () -> x.order(bad, -1, -1));
@@ -64,7 +64,7 @@ public final class PromisesOrders {
     }
 
     private static void drop() {
-        CargoHeel x = new CargoHeel();
+        Watched x = new Watched();
         for (int bay = 0; bay < 4; bay++) x.order(CargoHeel.OPEN, bay, 0);
         for (int bad : new int[] {Integer.MIN_VALUE, -1, 4, 20, Integer.MAX_VALUE}) {
             Due.isThrown(x, "11 order " + bad, OUT, () -> x.drop(bad));
@@ -80,7 +80,7 @@ public final class PromisesOrders {
     }
 
     private static void pass() {
-        CargoHeel x = new CargoHeel();
+        Watched x = new Watched();
         Due.is("12 no lifts", 0, () -> x.pass(1));
         Due.is("12 the hour", 1, x::hour);
         Due.is("12 a day", 0, () -> x.pass(24));
@@ -91,7 +91,7 @@ public final class PromisesOrders {
     }
 
     private static void passThrows() {
-        CargoHeel x = new CargoHeel();
+        Watched x = new Watched();
         for (int bad : new int[] {Integer.MIN_VALUE, -1, 0, 25, Integer.MAX_VALUE}) {
             Due.isThrown(x, "12 hours " + bad, ARGUMENT, () -> x.pass(bad));
         }
@@ -109,7 +109,7 @@ public final class PromisesOrders {
 
     /** Each lift looks from the front again, the crane 0 has all its lifts ahead of the crane 1. */
     private static void passInTheirOrder() {
-        CargoHeel x = new CargoHeel();
+        Watched x = new Watched();
         Due.cleared(x, 10, 5, 0, 0);
         Due.cleared(x, 10, 5, 0, 0);
         x.crane(0, 0, 1, 1);
@@ -119,7 +119,7 @@ public final class PromisesOrders {
         x.order(CargoHeel.SHIFT, 0, 12);
         Due.is("12 the second frees the first", 3, () -> x.pass(1));
         Due.is("12 shifted at last", 0, () -> x.at(12));
-        CargoHeel y = new CargoHeel();
+        Watched y = new Watched();
         Due.cleared(y, 10, 5, 0, 0);
         Due.cleared(y, 12, 5, 0, 1);
         y.crane(0, 0, 5, 1);
@@ -129,7 +129,7 @@ public final class PromisesOrders {
         Due.is("12 the first one has the slot", 1, () -> y.pass(1));
         Due.is("12 the box 0", 0, () -> y.at(2));
         Due.is("12 the other waits", 1, y::orders);
-        CargoHeel z = new CargoHeel();
+        Watched z = new Watched();
         z.crane(0, 3, 5, 1);
         z.crane(1, 0, 2, 1);
         z.order(CargoHeel.SHUT, 4, 0);
@@ -142,7 +142,7 @@ public final class PromisesOrders {
     }
 
     private static void passFindsWeights() {
-        CargoHeel x = new CargoHeel();
+        Watched x = new Watched();
         Due.cleared(x, 10, 5, 0, 0);
         x.box(10, 16, 5, 0, 1);
         x.box(10, 15, 5, 0, 2);
@@ -166,7 +166,7 @@ public final class PromisesOrders {
     }
 
     private static void passFindsLighterOnes() {
-        CargoHeel x = new CargoHeel();
+        Watched x = new Watched();
         x.box(10, 1, 5, 0, 0);
         Due.cleared(x, 10, 5, 0, 1);
         for (int paper = 0; paper < 3; paper++) x.paper(0, paper);
@@ -178,7 +178,7 @@ public final class PromisesOrders {
     }
 
     private static void passCosts() {
-        CargoHeel x = new CargoHeel();
+        Watched x = new Watched();
         x.box(5, 5, 0, 0, 0);
         x.box(5, 5, 1, 0, 1);
         x.pass(1);
@@ -200,7 +200,7 @@ public final class PromisesOrders {
     }
 
     private static void passLandsAndShifts() {
-        CargoHeel x = new CargoHeel();
+        Watched x = new Watched();
         Due.cleared(x, 10, 5, 0, 0);
         Due.cleared(x, 8, 5, 0, 1);
         x.order(CargoHeel.LOAD, 0, 2);
@@ -230,7 +230,7 @@ public final class PromisesOrders {
     }
 
     private static void leave() {
-        CargoHeel x = new CargoHeel();
+        Watched x = new Watched();
         Due.cleared(x, 10, 2, 0, 0);
         x.box(10, 10, 2, 0, 1);
         x.order(CargoHeel.LOAD, 0, 102);
@@ -256,7 +256,7 @@ public final class PromisesOrders {
     }
 
     private static void leaveBars() {
-        CargoHeel x = new CargoHeel();
+        Watched x = new Watched();
         x.order(CargoHeel.OPEN, 3, 0);
         x.pass(1);
         Due.isThrown(x, "13 a hatch is open", STATE, x::leave);

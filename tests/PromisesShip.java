@@ -22,7 +22,7 @@ public final class PromisesShip {
     }
 
     private static void aNewObject() {
-        CargoHeel x = new CargoHeel();
+        Watched x = new Watched();
         Due.is("1 hour", 0, x::hour);
         Due.is("1 port", 0, x::port);
         Due.is("1 cost", 0, x::cost);
@@ -51,7 +51,7 @@ public final class PromisesShip {
     }
 
     private static void plug() {
-        CargoHeel x = new CargoHeel();
+        Watched x = new Watched();
         Due.is("2 put", true, () -> x.plug(523));
         Due.is("2 taken away", false, () -> x.plug(523));
         Due.is("2 put again", true, () -> x.plug(523));
@@ -72,7 +72,7 @@ public final class PromisesShip {
     }
 
     private static void bounds() {
-        CargoHeel x = new CargoHeel();
+        Watched x = new Watched();
         int[][] wrong = {{-1, 0, 0}, {2001, 0, 0}, {0, -1, 0}, {0, 2001, 0}, {0, 0, -1}, {0, 0, 10000},
             {Integer.MIN_VALUE, 0, 0}, {0, Integer.MAX_VALUE, 0}};
         for (int[] b : wrong) {
@@ -88,7 +88,7 @@ public final class PromisesShip {
     }
 
     private static void boundsAreAmounts() {
-        CargoHeel x = new CargoHeel();
+        Watched x = new Watched();
         x.tank(0, 80);
         Due.is("3 the trim at its bound", -400, () -> x.moment(0));
         Due.is("3 at the bound of 400", 0, x::bars);
@@ -114,7 +114,7 @@ public final class PromisesShip {
         Due.is("3 both level", 0, x::bars);
         x.bounds(0, 0, 395);
         Due.is("3 at any cut", 8, x::bars);
-        CargoHeel y = new CargoHeel();
+        Watched y = new Watched();
         y.tank(1, 99);
         y.tank(2, 99);
         y.tank(3, 99);
@@ -132,18 +132,18 @@ public final class PromisesShip {
 
     /** 400, 60 and 900 are allowed at first, and 1 more is not. */
     private static void boundsAtFirst() {
-        CargoHeel x = new CargoHeel();
+        Watched x = new Watched();
         x.tank(5, 80);
         Due.is("3 a trim of 400", 0, x::bars);
         x.tank(3, 1);
         Due.is("3 a trim of 401", 2, x::bars);
-        CargoHeel y = new CargoHeel();
+        Watched y = new Watched();
         loaded(y, 30, 222);
         loaded(y, 30, 322);
         Due.is("3 a heel of 60", 0, y::bars);
         loaded(y, 1, 323);
         Due.is("3 a heel of 61", 4, y::bars);
-        CargoHeel z = new CargoHeel();
+        Watched z = new Watched();
         for (int bay = 0; bay < 5; bay++) z.tank(bay, 99);
         for (int bay = 300; bay <= 400; bay += 100) {
             for (int place : new int[] {2, 3, 12, 13, 22}) loaded(z, 40, bay + place);
@@ -156,18 +156,18 @@ public final class PromisesShip {
         Due.is("3 which is not", 8, () -> z.bars() & 8);
     }
 
-    private static void loaded(CargoHeel x, int weight, int slot) {
+    private static void loaded(Watched x, int weight, int slot) {
         x.order(CargoHeel.LOAD, Due.cleared(x, weight, 9, CargoHeel.PLAIN, 0), slot);
         x.pass(1);
     }
 
-    private static Object bound(CargoHeel x, int trim, int heel, int bending) {
+    private static Object bound(Watched x, int trim, int heel, int bending) {
         x.bounds(trim, heel, bending);
         return 0;
     }
 
     private static void tank() {
-        CargoHeel x = new CargoHeel();
+        Watched x = new Watched();
         Due.is("4 was empty", 0, () -> x.tank(5, 99));
         Due.is("4 was full", 99, () -> x.tank(5, 7));
         Due.is("4 holds what it was told", 7, () -> x.tank(5, 7));
@@ -182,7 +182,7 @@ public final class PromisesShip {
     }
 
     private static void jam() {
-        CargoHeel x = new CargoHeel();
+        Watched x = new Watched();
         Due.is("5 the first", 1, () -> x.jam(0, 1));
         Due.is("5 the last", 50, () -> x.jam(5, 50));
         Due.is("5 the longest counts", 50, () -> x.jam(5, 1));
@@ -202,7 +202,7 @@ public final class PromisesShip {
     }
 
     private static void jamBlocksOpening() {
-        CargoHeel x = new CargoHeel();
+        Watched x = new Watched();
         x.jam(1, 2);
         x.order(CargoHeel.OPEN, 1, 0);
         Due.is("5 not in the hour 0 nor 1", 0, () -> x.pass(2));
@@ -217,7 +217,7 @@ public final class PromisesShip {
     }
 
     private static void crane() {
-        CargoHeel x = new CargoHeel();
+        Watched x = new Watched();
         x.order(CargoHeel.OPEN, 0, 0);
         for (int crane : new int[] {Integer.MIN_VALUE, -1, 2, Integer.MAX_VALUE}) {
             Due.isThrown(x, "6 crane " + crane, OUT, () -> told(x, crane, 9, -9, 9));
@@ -231,7 +231,7 @@ public final class PromisesShip {
         Due.is("6 told", 0, () -> told(x, 0, 5, 5, 1));
         Due.is("6 out of its reach", false, () -> x.can(0, 0));
         Due.is("6 in the reach of the other one", true, () -> x.can(0, 1));
-        CargoHeel y = new CargoHeel();
+        Watched y = new Watched();
         for (int bay = 0; bay < 6; bay++) y.order(CargoHeel.OPEN, bay, 0);
         Due.is("6 two lifts each at first", 4, () -> y.pass(1));
         Due.is("6 and the rest", 2, () -> y.pass(1));
@@ -242,7 +242,7 @@ public final class PromisesShip {
     }
 
     private static void craneReachesBothEnds() {
-        CargoHeel x = new CargoHeel();
+        Watched x = new Watched();
         x.crane(1, 2, 4, 4);
         for (int bay = 0; bay < 6; bay++) x.order(CargoHeel.OPEN, bay, 0);
         for (int bay = 0; bay < 6; bay++) {
@@ -251,7 +251,7 @@ public final class PromisesShip {
         }
     }
 
-    private static Object told(CargoHeel x, int crane, int from, int to, int lifts) {
+    private static Object told(Watched x, int crane, int from, int to, int lifts) {
         x.crane(crane, from, to, lifts);
         return 0;
     }

@@ -1,18 +1,19 @@
 import java.util.Random;
 
-/** Runs of 512 random calls, right and wrong ones, each answered by the class and by the model. */
+/** Runs of random calls, right and wrong ones, each answered by the class and by the model. */
 public final class RandomRuns {
     private static final int RUNS = 400;
-    private static final int CALLS = 512;
+    private static final int LOOKS = 3;
     private static final int[] FAR = {Integer.MIN_VALUE, Integer.MIN_VALUE + 1, -100, -2, -1, 4, 6, 10, 20, 30, 40, 41,
         60, 99, 100, 104, 130, 524, 600, 2001, 10000, Integer.MAX_VALUE - 1, Integer.MAX_VALUE};
 
+    private final String name;
     private final Random random;
-    private final CargoHeel x = new CargoHeel();
+    private final Watched x = new Watched();
     private final Model model = new Model();
-    private int boxes = 0;
 
-    private RandomRuns(long seed) {
+    private RandomRuns(int seed) {
+        name = "run " + seed;
         random = new Random(seed);
     }
 
@@ -22,33 +23,45 @@ public final class RandomRuns {
         int ports = 0;
         for (int run = 0; run < RUNS; run++) {
             RandomRuns it = new RandomRuns(run);
-            it.run("run " + run + " ");
+            // An object may be used for 512 calls: some runs use them all, the others are looked at in full.
+            it.run(run % 3 == 0 ? Watched.MOST_CALLS : 200 + run % 150);
             for (int what = 0; what < 5; what++) lifts[what] += it.model.lifts[what];
             putBack += it.model.putBack;
-            ports += it.model.port();
+            ports += it.model.ports;
         }
         for (int what = 0; what < 5; what++) {
-            int done = lifts[what];
-            Due.is("lifts of the kind " + what + " are done in plenty", true, () -> done > RUNS);
+            Due.equal("lifts of the kind " + what + " are done in plenty", true, lifts[what] > RUNS);
         }
-        int back = putBack;
-        int left = ports;
-        Due.is("boxes stay where they were at times", true, () -> back > RUNS / 4);
-        Due.is("ports are left in plenty", true, () -> left > RUNS);
+        Due.equal("boxes stay where they were at times", true, putBack > RUNS / 8);
+        Due.equal("ports are left in plenty", true, ports > RUNS);
         System.out.println("loads " + lifts[0] + ", landings " + lifts[1] + ", shifts " + lifts[2] + ", put back "
             + putBack + ", ports " + ports);
         Due.end();
     }
 
-    private void run(String name) {
-        boolean wide = random.nextInt(4) > 0;
-        if (wide) bounds(name, 2000, 2000, 9999);
-        for (int call = 0; call < CALLS; call++) {
-            String head = name + "call " + call + ": ";
-            if (random.nextInt(3) > 0) change(head);
-            else ask(head);
-            if (call % 32 == 31) compareAll(head);
+    private void run(int calls) {
+        if (below(4) > 0) step("bounds", 2000, 2000, 9999);
+        int look = calls / LOOKS;
+        while (x.calls() < calls) {
+            if (below(3) > 0) change(calls);
+            else ask();
+            if (x.calls() >= look && x.calls() < calls) {
+                compareAll();
+                look += calls / LOOKS;
+            }
         }
+        compareAll();
+    }
+
+    private Object step(String call, int... args) {
+        Object due = model.answer(new Call(call, args));
+        Object got = Due.answerOf(() -> x.ask(call, args));
+        Due.equal(() -> name + ", call " + x.calls() + ": " + new Call(call, args), due, got);
+        return due;
+    }
+
+    private Object known(String question, int... args) {
+        return model.answer(new Call(question, args));
     }
 
     private int below(int bound) {
@@ -61,194 +74,94 @@ public final class RandomRuns {
     }
 
     private int slot() {
-        int under = knownBox();
-        if (below(3) == 0 && model.of(under, 4).equals(CargoHeel.SHIP)) return (Integer) model.of(under, 5) + 1;
+        int under = box();
+        if (below(3) == 0 && known("of", under, 4).equals(CargoHeel.SHIP)) return (Integer) known("of", under, 5) + 1;
         int tier = below(3) == 0 ? below(4) : below(2) + 2;
         return or(100 * below(6) + 10 * below(3) + tier);
     }
 
-    private int knownBox() {
+    private int box() {
         // The latest boxes are the ones that can still be done something with.
+        int boxes = x.boxes();
         return or(boxes == 0 ? 0 : Math.max(boxes - 1 - below(below(3) == 0 ? boxes : Math.min(boxes, 12)), 0));
     }
 
-    private void bounds(String head, int trim, int heel, int bending) {
-        Due.is(head + "bounds", model.bounds(trim, heel, bending), () -> {
-            x.bounds(trim, heel, bending);
-            return 0;
-        });
-    }
-
-    private void change(String head) {
+    private void change(int calls) {
         int what = below(100);
-        if (what < 16) box(head);
-        else if (what < 19) paper(head, knownBox(), or(below(3)));
-        else if (what < 62) order(head);
-        else if (what < 82) pass(head);
-        else if (what < 90) leave(head);
-        else changeShip(head, below(8));
+        if (what < 16 && x.calls() < calls - 4) comes();
+        else if (what < 19) step("paper", box(), or(below(3)));
+        else if (what < 62 && x.calls() < calls - 1) order();
+        else if (what < 82) step("pass", or(below(9) == 0 ? 1 + below(24) : 1 + below(2)));
+        else if (what < 87) step("leave");
+        else changeShip(below(8));
     }
 
-    private void changeShip(String head, int what) {
-        int bay = or(below(6));
-        int number = or(below(100));
-        int slot = slot();
+    private void changeShip(int what) {
         switch (what) {
-            case 0: {
-                Due.is(head + "tank " + bay + " " + number, model.tank(bay, number), () -> x.tank(bay, number));
-                break;
+            case 0 -> step("tank", or(below(6)), or(below(100)));
+            case 1 -> step("jam", or(below(6)), or(1 + below(4) * below(5)));
+            case 2 -> step("crane", or(below(2)), or(below(3)), or(3 + below(3)), or(1 + below(4)));
+            case 3 -> step("skip", or(below(10)));
+            case 4 -> step("drop", or(below(5)));
+            case 5 -> {
+                if (below(4) == 0) step("bounds", or(below(400)), or(below(60)), or(below(900)));
+                else step("bounds", or(2000), or(2000), or(9999));
             }
-            case 1: {
-                int hours = or(1 + below(4) * below(5));
-                Due.is(head + "jam " + bay + " " + hours, model.jam(bay, hours), () -> x.jam(bay, hours));
-                break;
-            }
-            case 2: {
-                int crane = or(below(2));
-                int from = or(below(3));
-                int to = or(3 + below(3));
-                int lifts = or(1 + below(4));
-                Due.is(head + "crane " + crane + " " + from + " " + to + " " + lifts,
-                    model.crane(crane, from, to, lifts), () -> {
-                        x.crane(crane, from, to, lifts);
-                        return 0;
-                    });
-                break;
-            }
-            case 3: {
-                int port = or(below(10));
-                Due.is(head + "skip " + port, model.skip(port), () -> x.skip(port));
-                break;
-            }
-            case 4: {
-                int order = or(below(5));
-                Due.is(head + "drop " + order, model.drop(order), () -> x.drop(order));
-                break;
-            }
-            case 5: {
-                if (below(4) == 0) bounds(head, or(below(400)), or(below(60)), or(below(900)));
-                else bounds(head, or(2000), or(2000), or(9999));
-                break;
-            }
-            default: {
-                Due.is(head + "plug " + slot, model.plug(slot), () -> x.plug(slot) ? 1 : 0);
-            }
+            default -> step("plug", slot());
         }
     }
 
-    private void box(String head) {
+    private void comes() {
         int weight = or(1 + below(below(2) == 0 ? 12 : 40));
-        int truth = below(2) == 0 ? or(1 + below(40)) : weight;
-        int port = or(below(3) == 0 ? below(10) : Math.min(9, x.port() + 1 + below(3)));
+        int truth = below(3) > 0 ? or(1 + below(40)) : weight;
+        int port = or(below(3) == 0 ? below(10) : Math.min(9, (Integer) known("port") + 1 + below(3)));
         int kind = or(below(3) == 0 ? below(5) : 0);
-        int stack = or(below(10));
-        Object due = model.box(weight, truth, port, kind, stack);
-        Due.is(head + "box " + weight + " " + truth + " " + port + " " + kind + " " + stack, due,
-            () -> x.box(weight, truth, port, kind, stack));
-        if (!(due instanceof Integer)) return;
-        boxes++;
-        if (below(5) == 0) return;
-        for (int paper = 0; paper < 3; paper++) paper(head, boxes - 1, paper);
+        Object due = step("box", weight, truth, port, kind, or(below(10)));
+        if (!(due instanceof Integer) || below(5) == 0) return;
+        for (int paper = 0; paper < 3; paper++) step("paper", x.boxes() - 1, paper);
     }
 
-    private void paper(String head, int box, int paper) {
-        Due.is(head + "paper " + box + " " + paper, model.paper(box, paper), () -> x.paper(box, paper) ? 1 : 0);
-    }
-
-    private void order(String head) {
-        if (x.orders() > 10) {
-            int dropped = below(8);
-            Due.is(head + "drop " + dropped, model.drop(dropped), () -> x.drop(dropped));
-        }
+    private void order() {
+        if ((Integer) known("orders") > 10 && below(10) > 0) step("drop", below(8));
         int what = 0;
         int its = 0;
         int place = 0;
         // Most orders at random cannot be done, so some more are thrown away ahead of one that is put.
         for (int i = below(30); i >= 0; i--) {
             what = or(new int[] {0, 0, 0, 0, 1, 1, 1, 2, 2, 3, 4, 4}[below(12)]);
-            its = what == CargoHeel.OPEN || what == CargoHeel.SHUT ? or(below(6)) : knownBox();
+            its = what == CargoHeel.OPEN || what == CargoHeel.SHUT ? or(below(6)) : box();
             place = what == CargoHeel.LAND ? or(below(10)) : slot();
             if (model.couldDo(what, its, place)) break;
         }
-        order(head, what, its, place);
+        step("order", what, its, place);
     }
 
-    private void order(String head, int what, int its, int place) {
-        Due.is(head + "order " + what + " " + its + " " + place, model.order(what, its, place),
-            () -> x.order(what, its, place));
-    }
-
-    private void pass(String head) {
-        int hours = or(below(9) == 0 ? 1 + below(24) : 1 + below(2));
-        Due.is(head + "pass " + hours, model.pass(hours), () -> x.pass(hours));
-    }
-
-    private void leave(String head) {
-        if (below(3) == 0) return;
-        Due.is(head + "leave", model.leave(), x::leave);
-    }
-
-    private void ask(String head) {
-        int box = knownBox();
-        int slot = slot();
-        int small = or(below(8));
-        int other = or(below(3));
+    private void ask() {
         switch (below(14)) {
-            case 0: Due.is(head + "of " + box + " " + small, model.of(box, small), () -> x.of(box, small)); break;
-            case 1: Due.is(head + "at " + slot, model.at(slot), () -> x.at(slot)); break;
-            case 2: Due.is(head + "inYard " + small + " " + other, model.inYard(small, other),
-                () -> x.inYard(small, other)); break;
-            case 3: Due.is(head + "hatch " + small, model.hatch(small), () -> x.hatch(small)); break;
-            case 4: Due.is(head + "moment " + small, model.moment(small), () -> x.moment(small)); break;
-            case 5: Due.is(head + "momentAnew " + small, model.moment(small), () -> x.momentAnew(small)); break;
-            case 6: Due.is(head + "dig " + box, model.dig(box), () -> x.dig(box)); break;
-            case 7: Due.is(head + "can " + small + " " + other, model.can(small, other),
-                () -> x.can(small, other) ? 1 : 0); break;
-            case 8: Due.is(head + "may " + box + " " + slot, model.may(box, slot), () -> x.may(box, slot) ? 1 : 0); break;
-            case 9: Due.is(head + "hour", model.hour(), x::hour); break;
-            case 10: Due.is(head + "port", model.port(), x::port); break;
-            case 11: Due.is(head + "cost", model.cost(), x::cost); break;
-            case 12: Due.is(head + "bars", model.bars(), x::bars); break;
-            default: Due.is(head + "orders", model.orders(), x::orders);
+            case 0 -> step("of", box(), or(below(7)));
+            case 1 -> step("at", slot());
+            case 2 -> step("inYard", or(below(10)), or(below(5)));
+            case 3 -> step("hatch", or(below(6)));
+            case 4 -> step("moment", or(below(7)));
+            case 5 -> step("momentAnew", or(below(7)));
+            case 6 -> step("dig", box());
+            case 7 -> step("can", or(below(8)), or(below(2)));
+            case 8 -> step("may", box(), slot());
+            case 9 -> step("hour");
+            case 10 -> step("port");
+            case 11 -> step("cost");
+            case 12 -> step("bars");
+            default -> step("orders");
         }
     }
 
-    private void compareAll(String head) {
-        Due.is(head + "boxes", boxes, () -> Due.boxesOf(x));
-        Due.is(head + "cost", model.cost(), x::cost);
-        Due.is(head + "hour", model.hour(), x::hour);
-        Due.is(head + "port", model.port(), x::port);
-        Due.is(head + "orders", model.orders(), x::orders);
-        Due.is(head + "bars", model.bars(), x::bars);
-        for (int i = 0; i < 7; i++) {
-            int what = i;
-            Due.is(head + "moment " + i, model.moment(what), () -> x.moment(what));
-            Due.is(head + "momentAnew " + i, model.moment(what), () -> x.momentAnew(what));
-            Due.is(head + "hatch " + i, model.hatch(what), () -> x.hatch(what));
-        }
-        for (int i = 0; i < 40; i++) {
-            int stack = i / 4;
-            int place = i % 4;
-            Due.is(head + "inYard " + stack + " " + place, model.inYard(stack, place), () -> x.inYard(stack, place));
-            int order = i / 2;
-            int crane = i % 2;
-            Due.is(head + "can " + order + " " + crane, model.can(order, crane), () -> x.can(order, crane) ? 1 : 0);
-        }
-        for (int i = 0; i < boxes; i++) {
-            int box = i;
-            for (int j = 0; j < 7; j++) {
-                int what = j;
-                Due.is(head + "of " + box + " " + what, model.of(box, what), () -> x.of(box, what));
-            }
-            Due.is(head + "dig " + box, model.dig(box), () -> x.dig(box));
-        }
-        for (int i = 0; i < 72; i++) {
-            int slot = 100 * (i / 12) + 10 * (i / 4 % 3) + i % 4;
-            Due.is(head + "at " + slot, model.at(slot), () -> x.at(slot));
-            for (int j = 0; j < boxes; j += 7) {
-                int box = j;
-                Due.is(head + "may " + box + " " + slot, model.may(box, slot), () -> x.may(box, slot) ? 1 : 0);
-            }
+    /** All questions, asked of fresh objects that were led by the same calls. */
+    private void compareAll() {
+        Questions fresh = new Questions(x.callsBut(0), Watched.MOST_CALLS - x.calls());
+        for (Call question : Picture.questions(x.boxes())) {
+            if (!fresh.haveRoom()) return;
+            Due.equal(() -> name + ", after " + x.calls() + " calls: " + question, model.answer(question).toString(),
+                fresh.answer(question));
         }
     }
 }

@@ -29,6 +29,7 @@ final class Model {
     /** What happened, so that a test can see that its runs reach it. */
     final int[] lifts = new int[5];
     int putBack = 0;
+    int ports = 0;
 
     private final List<Box> boxes = new ArrayList<>();
     /** The boxes of the yard as they came to lie there. */
@@ -44,6 +45,39 @@ final class Model {
     private int hour = 0;
     private int port = 0;
     private int cost = 0;
+
+    /** What is due for a call of the face. */
+    Object answer(Call call) {
+        int[] a = call.args();
+        return switch (call.name()) {
+            case "plug" -> plug(a[0]);
+            case "bounds" -> bounds(a[0], a[1], a[2]);
+            case "tank" -> tank(a[0], a[1]);
+            case "jam" -> jam(a[0], a[1]);
+            case "crane" -> crane(a[0], a[1], a[2], a[3]);
+            case "box" -> box(a[0], a[1], a[2], a[3], a[4]);
+            case "paper" -> paper(a[0], a[1]);
+            case "skip" -> skip(a[0]);
+            case "order" -> order(a[0], a[1], a[2]);
+            case "drop" -> drop(a[0]);
+            case "pass" -> pass(a[0]);
+            case "leave" -> leave();
+            case "hour" -> hour;
+            case "port" -> port;
+            case "cost" -> cost;
+            case "of" -> of(a[0], a[1]);
+            case "at" -> at(a[0]);
+            case "inYard" -> inYard(a[0], a[1]);
+            case "hatch" -> hatch(a[0]);
+            case "moment", "momentAnew" -> moment(a[0]);
+            case "bars" -> bars();
+            case "dig" -> dig(a[0]);
+            case "orders" -> waiting.size();
+            case "can" -> can(a[0], a[1]);
+            case "may" -> may(a[0], a[1]);
+            default -> throw new AssertionError(call + " is no call of the face");
+        };
+    }
 
     private static boolean in(int number, int least, int most) {
         return least <= number && number <= most;
@@ -77,7 +111,7 @@ final class Model {
         return there > port && !leftOut[there];
     }
 
-    Object plug(int slot) {
+    private Object plug(int slot) {
         if (!slot(slot)) return OUT;
         int bay = slot / 100, row = slot % 100 / 10, tier = slot % 10;
         Box b = on(bay, row, tier);
@@ -86,7 +120,7 @@ final class Model {
         return plugs[bay][row][tier] ? 1 : 0;
     }
 
-    Object bounds(int trim, int heel, int bending) {
+    private Object bounds(int trim, int heel, int bending) {
         if (!in(trim, 0, 2000) || !in(heel, 0, 2000) || !in(bending, 0, 9999)) return ARGUMENT;
         bound[0] = trim;
         bound[1] = heel;
@@ -94,7 +128,7 @@ final class Model {
         return 0;
     }
 
-    Object tank(int bay, int full) {
+    private Object tank(int bay, int full) {
         if (!in(bay, 0, 5)) return OUT;
         if (!in(full, 0, 99)) return ARGUMENT;
         int before = water[bay];
@@ -102,14 +136,14 @@ final class Model {
         return before;
     }
 
-    Object jam(int bay, int hours) {
+    private Object jam(int bay, int hours) {
         if (!in(bay, 0, 5)) return OUT;
         if (!in(hours, 1, 50)) return ARGUMENT;
         if (hour + hours > jammedTill[bay]) jammedTill[bay] = hour + hours;
         return jammedTill[bay];
     }
 
-    Object crane(int crane, int from, int to, int lifts) {
+    private Object crane(int crane, int from, int to, int lifts) {
         if (!in(crane, 0, 1)) return OUT;
         if (!in(from, 0, 5) || !in(to, from, 5) || !in(lifts, 1, 4)) return ARGUMENT;
         cranes[crane] = new int[] {from, to, lifts};
@@ -122,7 +156,7 @@ final class Model {
         return its.isEmpty() || b.told - its.get(its.size() - 1).told <= 5;
     }
 
-    Object box(int weight, int truth, int itsPort, int kind, int stack) {
+    private Object box(int weight, int truth, int itsPort, int kind, int stack) {
         if (!in(itsPort, 0, 9) || !in(stack, 0, 9)) return OUT;
         if (!in(weight, 1, 40) || !in(truth, 1, 40) || !in(kind, 0, 4)) return ARGUMENT;
         Box b = new Box();
@@ -137,7 +171,7 @@ final class Model {
         return boxes.size() - 1;
     }
 
-    Object paper(int box, int paper) {
+    private Object paper(int box, int paper) {
         if (!known(box) || !in(paper, 0, 2)) return OUT;
         Box b = boxes.get(box);
         b.paper[paper] = !b.paper[paper];
@@ -149,7 +183,7 @@ final class Model {
         return there;
     }
 
-    Object skip(int out) {
+    private Object skip(int out) {
         if (!in(out, 1, 8)) return OUT;
         if (!ahead(out)) return STATE;
         leftOut[out] = true;
@@ -162,7 +196,7 @@ final class Model {
         return moved;
     }
 
-    Object order(int what, int its, int place) {
+    private Object order(int what, int its, int place) {
         if (!in(what, 0, 4)) return ARGUMENT;
         if (what > 2 ? !in(its, 0, 5) : !known(its) || (what == 1 ? !in(place, 0, 9) : !slot(place))) return OUT;
         if (waiting.size() == 20) return STATE;
@@ -170,7 +204,7 @@ final class Model {
         return waiting.size();
     }
 
-    Object drop(int order) {
+    private Object drop(int order) {
         if (!in(order, 0, waiting.size() - 1)) return OUT;
         waiting.remove(order);
         return waiting.size();
@@ -252,7 +286,7 @@ final class Model {
         }
     }
 
-    Object pass(int hours) {
+    private Object pass(int hours) {
         if (!in(hours, 1, 24)) return ARGUMENT;
         if (hour + hours > 1000) return STATE;
         int done = 0;
@@ -275,28 +309,17 @@ final class Model {
         return done;
     }
 
-    Object leave() {
+    private Object leave() {
         if (bars() != 0) return STATE;
         for (Box b : yard) b.where = 2;
         yard.clear();
         waiting.clear();
         port = behind(port);
+        ports++;
         return port;
     }
 
-    int hour() {
-        return hour;
-    }
-
-    int port() {
-        return port;
-    }
-
-    int cost() {
-        return cost;
-    }
-
-    Object of(int box, int what) {
+    private Object of(int box, int what) {
         if (!known(box)) return OUT;
         if (!in(what, 0, 6)) return ARGUMENT;
         Box b = boxes.get(box);
@@ -312,23 +335,23 @@ final class Model {
         return its.size() - 1 - its.indexOf(b);
     }
 
-    Object at(int slot) {
+    private Object at(int slot) {
         if (!slot(slot)) return OUT;
         return boxes.indexOf(on(slot / 100, slot % 100 / 10, slot % 10));
     }
 
-    Object inYard(int stack, int place) {
+    private Object inYard(int stack, int place) {
         if (!in(stack, 0, 9) || place < 0) return OUT;
         List<Box> its = stack(stack);
         return place < its.size() ? boxes.indexOf(its.get(place)) : -1;
     }
 
-    Object hatch(int bay) {
+    private Object hatch(int bay) {
         if (!in(bay, 0, 5)) return OUT;
         return (open[bay] ? 1 : 0) + (hour < jammedTill[bay] ? 2 : 0);
     }
 
-    Object moment(int what) {
+    private Object moment(int what) {
         if (!in(what, 0, 6)) return ARGUMENT;
         int[] load = water.clone();
         int heel = 0;
@@ -352,7 +375,7 @@ final class Model {
         return number > bound[its] || number < -bound[its];
     }
 
-    int bars() {
+    private int bars() {
         int bars = port == 9 ? 32 : 0;
         for (boolean o : open) if (o) bars |= 1;
         if (past(0, 0)) bars |= 2;
@@ -362,7 +385,7 @@ final class Model {
         return bars;
     }
 
-    Object dig(int box) {
+    private Object dig(int box) {
         if (!known(box)) return OUT;
         Box its = boxes.get(box);
         if (its.where != 1) return STATE;
@@ -374,16 +397,12 @@ final class Model {
         return count;
     }
 
-    int orders() {
-        return waiting.size();
-    }
-
-    Object can(int order, int crane) {
+    private Object can(int order, int crane) {
         if (!in(order, 0, waiting.size() - 1) || !in(crane, 0, 1)) return OUT;
         return doable(waiting.get(order), crane) ? 1 : 0;
     }
 
-    Object may(int box, int slot) {
+    private Object may(int box, int slot) {
         if (!known(box) || !slot(slot)) return OUT;
         return allowed(boxes.get(box), slot) ? 1 : 0;
     }
