@@ -18,6 +18,7 @@ public final class EdgesPorts {
         barsTogether();
         barsAtTheirBounds();
         barsOfEachCut();
+        barsOfHeelAlone();
         dig();
         digWithAllOnTop();
         digThrows();
@@ -236,6 +237,17 @@ public final class EdgesPorts {
                 s.due(null, "bounds", 2000, 0, most).due("0", "bars");
                 s.due(null, "bounds", 2000, 0, most - 1).due("8", "bars").end();
             }
+        }
+    }
+
+    /** Each bay has a load of 10, so that the trim and all bendings are 0. */
+    private static void barsOfHeelAlone() {
+        for (int row = 0; row < 3; row += 2) {
+            Script.run("within their bounds: a heel past the bounds of the other two, in the row " + row, """
+                stow(10, 9, PLAIN, 2%1$d2); tank(0, 10); tank(1, 10); tank(3, 10); tank(4, 10); tank(5, 10)
+                moment(0) = 0; moment(1) = 0; moment(2) = 0; moment(3) = 0; moment(4) = 0; moment(5) = 0
+                bounds(0, 9, 0); bars() = 4; leave() = STATE; bounds(0, 10, 0); bars() = 0; leave() = 1
+                """.formatted(row));
         }
     }
 
