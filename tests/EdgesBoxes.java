@@ -2,6 +2,7 @@
 public final class EdgesBoxes {
     public static void main(String[] args) {
         sixtyBoxes();
+        sixtyBoxesAreLifted();
         boxIsTold();
         boxOutOfRange();
         papers();
@@ -28,7 +29,7 @@ public final class EdgesBoxes {
         s.play("""
             paper(58, 0) = true; of(59, 0) = OUT; paper(59, 0) = OUT; dig(59) = OUT; may(59, 2) = OUT; order(LOAD, 59, 2) = OUT
             order(LAND, 59, 2) = OUT; order(SHIFT, 59, 2) = OUT
-            box(5, 5, 9, PLAIN, 9) = 59
+            box(6, 7, 8, 4, 9) = 59; of(59, 0) = 6; of(59, 1) = 8; of(59, 2) = 4; of(59, 3) = 1; of(59, 4) = YARD; of(59, 6) = 0
             paper(59, 0) = true; of(59, 5) = 9; inYard(9, 1) = 59; dig(59) = STATE; may(59, 2) = true
             order(LOAD, 59, 2) = 1; order(LAND, 59, 2) = 2; order(SHIFT, 59, 2) = 3
             box(5, 5, 9, PLAIN, 0) = STATE; box(1, 1, 0, PLAIN, 9) = STATE       # there were 60, though 40 are gone
@@ -38,6 +39,34 @@ public final class EdgesBoxes {
             box(5, 5, 9, PLAIN, 0) = STATE; inYard(0, 0) = NONE; of(59, 4) = GONE
             box(0, 5, 9, PLAIN, 0) = ARGUMENT; box(5, 5, 10, PLAIN, 0) = OUT     # those are named first
             """).end();
+    }
+
+    /** All on one ship, tier by tier, each lighter than the one before; what a box was told as is never its true weight. */
+    private static void sixtyBoxesAreLifted() {
+        Script s = new Script("Boxes are numbered from 0, at most 60 ... a true one, which is found when a crane lifts it");
+        int trim = 0;
+        int heel = 0;
+        for (int box = 0; box < 60; box++) {
+            if (box == 0) allHatches(s, CargoHeel.OPEN);
+            if (box == 36) allHatches(s, CargoHeel.SHUT);
+            int bay = box % 18 / 3;
+            int row = box % 3;
+            int truth = 40 - box * 2 / 3;
+            trim += truth * (2 * bay - 5);
+            heel += truth * (row - 1);
+            s.due("" + box, "box", truth == 5 ? 4 : 5, truth, 9, 0, box % 10);
+            for (int paper = 0; paper < 3; paper++) s.due(null, "paper", box, paper);
+            s.due(null, "order", CargoHeel.LOAD, box, 100 * bay + 10 * row + box / 18);
+            if (box % 2 == 0) continue;
+            s.due("2", "pass", 1).due("" + truth, "of", box, 0).due("" + (40 - (box - 1) * 2 / 3), "of", box - 1, 0);
+            s.due("" + trim, "moment", 0).due("" + heel, "moment", 6);
+        }
+        s.end();
+    }
+
+    private static void allHatches(Script s, int what) {
+        for (int bay = 0; bay < 6; bay++) s.due("" + (bay + 1), "order", what, bay, 0);
+        s.due("6", "pass", 2);
     }
 
     private static void boxIsTold() {

@@ -2,6 +2,7 @@
 public final class EdgesOrders {
     public static void main(String[] args) {
         twentyOrders();
+        theTwentiethIsDone();
         orderArguments();
         orderOutOfRange();
         orderThrowsTheFirst();
@@ -41,6 +42,17 @@ public final class EdgesOrders {
             pass(1) = 2; orders() = 18                                      # it is opened, then shut
             order(SHUT, 0, 0) = 19; order(SHUT, 0, 0) = 20; order(SHUT, 0, 0) = STATE
             leave() = 1; orders() = 0; order(OPEN, 0, 0) = 1
+            """).end();
+    }
+
+    private static void theTwentiethIsDone() {
+        Script s = new Script("Orders wait in a row, at most 20: the last one is done as ordered").play("ready(10, 5, PLAIN, 3)");
+        for (int i = 1; i < 20; i++) s.due("" + i, "order", CargoHeel.SHUT, i % 6, 0);
+        s.play("""
+            order(LOAD, 0, 512) = 20; can(19, 1) = true; pass(1) = 1; at(512) = 0; orders() = 19
+            order(SHIFT, 0, 402) = 20; can(19, 1) = true; pass(1) = 1; at(402) = 0; at(512) = NONE; orders() = 19
+            order(LAND, 0, 7) = 20; can(19, 1) = true; pass(1) = 1; inYard(7, 0) = 0; at(402) = NONE; orders() = 19
+            order(OPEN, 5, 0) = 20; pass(1) = 2; orders() = 18; hatch(5) = 0                # it is opened, then shut
             """).end();
     }
 
